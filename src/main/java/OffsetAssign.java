@@ -76,6 +76,8 @@ public final class OffsetAssign {
     private final int[] accessVar = new int[MAX_ACCESSES];
     private int accessCount = 0;
 
+    // For each access the next one of the same register, or ABSENT, as of the last compile.
+    private final int[] follower = new int[MAX_ACCESSES];
     private final int[] weight = new int[WEIGHT_CELLS];
     private final int[] firstLink = new int[MAX_VARS];
     private final int[] secondLink = new int[MAX_VARS];
@@ -146,6 +148,7 @@ public final class OffsetAssign {
     }
 
     public int compile() {
+        findFollowers();
         countWeights();
         joinChains();
         assignAddresses();
@@ -330,8 +333,13 @@ public final class OffsetAssign {
         accessCount++;
     }
 
-    /** The next access of the same register, or ABSENT. */
-    private int nextAccess(int position) {
+    private void findFollowers() {
+        for (int i = 0; i < accessCount; i++) {
+            follower[i] = nextOfSameRegister(i);
+        }
+    }
+
+    private int nextOfSameRegister(int position) {
         int r = register[accessVar[position]];
         for (int i = position + 1; i < accessCount; i++) {
             if (register[accessVar[i]] == r) {
@@ -346,13 +354,16 @@ public final class OffsetAssign {
             weight[i] = 0;
         }
         for (int i = 0; i < accessCount; i++) {
-            int next = nextAccess(i);
-            if (next != ABSENT && accessVar[next] != accessVar[i]) {
-                int u = accessVar[i];
-                int v = accessVar[next];
-                weight[u * MAX_VARS + v]++;
-                weight[v * MAX_VARS + u]++;
+            if (follower[i] != ABSENT) {
+                countPair(accessVar[i], accessVar[follower[i]]);
             }
+        }
+    }
+
+    private void countPair(int u, int v) {
+        if (u != v) {
+            weight[u * MAX_VARS + v]++;
+            weight[v * MAX_VARS + u]++;
         }
     }
 
@@ -492,7 +503,7 @@ public final class OffsetAssign {
 
     /** The modifier that leads to the register's next access, or 0 where none can. */
     private int stepAfter(int position) {
-        int next = nextAccess(position);
+        int next = follower[position];
         if (next == ABSENT) {
             return 0;
         }
@@ -547,24 +558,15 @@ public final class OffsetAssign {
     private void executeAccess(int which, int at) {
         int r = instrRegister[at];
         int cell = addressRegister[r];
-        if (opcode[at] == I_STORE) {
-            writeCell(which, cell, accumulator);
-        } else {
-            int value = readCell(which, cell);
-            accumulator = combine(opcode[at], accumulator, value);
+        // Cells are numbered as variables are, so the same bounds hold.
+        boolean inside = isVariable(cell);
+        int place = which * MAX_VARS + cell;
+        if (opcode[at] != I_STORE) {
+            accumulator = combine(opcode[at], accumulator, inside ? memory[place] : 0);
+        } else if (inside) {
+            memory[place] = accumulator;
         }
         addressRegister[r] = cell + operand[at];
-    }
-
-    private int readCell(int which, int cell) {
-        // Cells are numbered as variables are, so the same bounds hold.
-        return isVariable(cell) ? memory[which * MAX_VARS + cell] : 0;
-    }
-
-    private void writeCell(int which, int cell, int value) {
-        if (isVariable(cell)) {
-            memory[which * MAX_VARS + cell] = value;
-        }
     }
 
     private static int combine(int code, int left, int right) {

@@ -15,6 +15,12 @@ final class Check {
         }
     }
 
+    void due(String call, String got, String want) {
+        if (!got.equals(want)) {
+            fault(call + " is " + got + ", due is " + want);
+        }
+    }
+
     void fault(String text) {
         wrong++;
         if (wrong <= MOST_PRINTED) {
