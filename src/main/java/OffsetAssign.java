@@ -329,6 +329,7 @@ public final class OffsetAssign {
     }
 
     private void appendAccess(int v) {
+        // There is room: addStatement lets in at most MAX_STATEMENTS, each with three accesses.
         accessVar[accessCount] = v;
         accessCount++;
     }
@@ -512,6 +513,7 @@ public final class OffsetAssign {
     }
 
     private void emit(int which, int code, int r, int value) {
+        // There is room: a statement takes at most six instructions, 6 * MAX_STATEMENTS in all.
         int at = which * MAX_CODE + codeLength[which];
         opcode[at] = code;
         instrRegister[at] = r;
