@@ -433,8 +433,10 @@ public final class CompileEdgeTest {
     private static void tieOfWeights() {
         // All three weigh 1: 0-1 and 0-2, then 1-2 would close a ring.
         laysOut("ring of equal weights", Sample.reading(3, 1, 2, 0, 1), 2, "1 0 2");
-        // 0-3, 1-2, 1-3, 2-3 weigh 1: 0-3 and 1-2 and 1-3 are accepted.
-        laysOut("u before v", Sample.reading(4, 0, 3, 2, 1, 3), 2, "0 2 3 1");
+        // 0-1 and 2-3 weigh 3, 0-3 and 1-2 1: the smaller u comes first, though its v is greater.
+        laysOut("u before v", Sample.reading(4, 0, 1, 0, 1, 2, 3, 2, 3, 0), 2, "1 0 3 2");
+        // 0-3, 1-2, 1-3, 2-3 weigh 1: all but the last are accepted.
+        laysOut("smallest u first", Sample.reading(4, 0, 3, 2, 1, 3), 2, "0 2 3 1");
     }
 
     private static void tieOfWeightsAndU() {

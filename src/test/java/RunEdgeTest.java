@@ -48,7 +48,7 @@ public final class RunEdgeTest {
         check.test("Terms: OP_COPY and OP_CONST of any int", RunEdgeTest::copiesAndConstants);
         check.test("Terms: a result wraps again in the next statement",
                 RunEdgeTest::wrapsAgain);
-        check.test("Terms: dest, a and b may be one variable", RunEdgeTest::oneVariable);
+        check.test("Terms: read a, read b, write dest, where all are one variable", RunEdgeTest::oneVariable);
     }
 
     private static void leaves(String what, OffsetAssign x, String values, String outputs) {
